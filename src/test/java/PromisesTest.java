@@ -417,6 +417,26 @@ public final class PromisesTest {
         due("9: by itself", x.overlaps(2), 1);
         DecisionTables y = single(0, 0, new int[] {ANY, ANY, ANY, ANY, ANY, ANY, ANY, ANY}, new int[8]);
         due("9: all couples of eight", y.overlaps(0), 28);
+        y.unrule(0);
+        due("9: all couples of seven", y.overlaps(0), 21);
+        DecisionTables z = new DecisionTables();
+        z.table(210, 0, 0);
+        z.rule(0, sets(one(7), one(0), one(7)), 1);
+        z.rule(0, sets(one(7), one(7), one(0)), 1);
+        z.rule(0, sets(one(0), one(7), one(7)), 1);
+        due("9: each couple shares one column's value", z.overlaps(0), 0);
+        z.rule(0, sets(one(7) | one(0), one(7), one(7) | one(0)), 1);
+        due("9: meets two of them", z.overlaps(0), 2);
+        for (int a = 0; a < 8; a++) {
+            for (int b = 0; b < 8; b++) {
+                DecisionTables w = new DecisionTables();
+                w.table(210, 0, 0);
+                w.rule(0, sets(ANY, one(a), ANY - one(b)), 1);
+                w.rule(0, sets(ANY, one(b), ANY), 1);
+                w.rule(0, sets(ANY, ANY, one(b)), 1);
+                due("9: second column " + a + " and " + b, w.overlaps(0), a == b ? 2 : 1);
+            }
+        }
     }
 
     private static void needless() {
@@ -468,6 +488,9 @@ public final class PromisesTest {
         x.rule(0, sets(ANY, ANY, 0), 4);
         x.rule(0, 16777215, 3);
         due("11: an empty set", x.unreached(0), 2);
+        x.rule(0, sets(one(0), one(0), one(0)), 3);
+        due("11: the first case alone", x.unreached(0), 2);
+        x.unrule(0);
         // Variable 3 is 3 in all cases.
         x.table(993, 0, 0);
         for (int value = 0; value < 8; value++) {
@@ -501,6 +524,9 @@ public final class PromisesTest {
         x.table(210, 0, 6);
         x.rule(0, sets(3, 7, 15), 5);
         due("12: 2 * 3 * 4", x.count(3, 5), 24);
+        x.rule(0, sets(one(7), one(7), one(7)), 4);
+        due("12: the last case alone", x.count(3, 4), 1);
+        x.unrule(0);
         due("12: the rest", x.count(3, 6), 488);
         due("12: none", x.count(3, 0), 0);
         for (int bad : OUTSIDE_8) {
@@ -538,6 +564,9 @@ public final class PromisesTest {
         x.rule(0, sets(one(7), one(7), one(7)), 7);
         x.rule(0, sets(ANY, ANY, 0), 1);
         due("14: by a table", x.possible(3), one(6) | one(7));
+        x.rule(0, sets(one(0), one(0), one(0)), 0);
+        due("14: in the first case alone", x.possible(3), one(0) | one(6) | one(7));
+        x.unrule(0);
         x.table(993, 0, 0);
         x.rule(1, one(5), 1);
         x.rule(1, one(6), 2);
@@ -565,6 +594,19 @@ public final class PromisesTest {
         due("15: through a table", x.depends(5), 6);
         DecisionTables y = single(0, 0, new int[] {one(3), one(4)}, new int[] {1, 1});
         due("15: the same at both ends", y.depends(3), 1);
+        for (int bit = 0; bit < 3; bit++) {
+            int[] halves = {0b10101010, 0b11001100, 0b11110000};
+            DecisionTables half = new DecisionTables();
+            half.table(210, 0, 0);
+            half.rule(0, sets(halves[bit], ANY, ANY), 1);
+            half.table(201, 0, 0);
+            half.rule(1, sets(halves[bit], ANY, ANY), 1);
+            half.table(102, 0, 0);
+            half.rule(2, sets(halves[bit], ANY, ANY), 1);
+            due("15: bit " + bit + " of input 0", half.depends(3), 1);
+            due("15: bit " + bit + " of input 1", half.depends(4), 2);
+            due("15: bit " + bit + " of input 2", half.depends(5), 4);
+        }
         DecisionTables z = new DecisionTables();
         z.table(210, 0, 0);
         z.rule(0, sets(one(7), one(7), one(7)), 1);
