@@ -224,6 +224,9 @@ public final class BoundariesTest {
             due("value of 3", x.value(3, 511), 0);
             due("depends of 2", x.depends(2), 4);
             due("depends of 3", x.depends(3), 0);
+            x.table(992, 0, 6);
+            due("value of 3 with a table", x.value(3, 511), 6);
+            due("value of 4 with a table", x.value(4, 511), 0);
         });
         sentence("a case is value 0 + 8 * value 1 + 64 * value 2 (0 to 511)", () -> {
             int[] cases = {0, 7, 8, 63, 64, 447, 448, 504, 511};
